@@ -5,7 +5,7 @@
 public final class HorseGift {
     public static final int NONE = -1, BAD = -2, NO = -3, FULL = -4;
 
-    /** Where an answer of -2 or so is told otherwise. */
+    /** Where -2 could be mistaken, or a call has an answer of its own beside the four above. */
     private static final int BAD_TEN = -10, REFUSED = -5, NOT_SO_MANY = -5;
     private static final int FAULT_AT_0 = -10, ITEM_0_REFUSED = -1000;
 
@@ -391,7 +391,7 @@ public final class HorseGift {
         System.arraycopy(from, 0, to, 0, Math.min(from.length, to.length));
     }
 
-    /** Sums of the numbers that a set of things has. */
+    /** The numbers of the things in a set, together. */
     private static int sumOver(int set, int[] numbers) {
         int sum = 0;
         for (int t = 0; t < numbers.length; t++) {

@@ -230,6 +230,9 @@ final class CounselTest {
         due.is("how much", x.stand(0, 1), 4);
         x.watch(0, 2, 5);
         due.is("the first of like ones", x.stand(0, 0), 2);
+        x.watch(0, 1, 6);
+        due.is("by the second hour", x.stand(0, 0), 1);
+        due.is("how much", x.stand(0, 1), 3);
         x.watch(0, 5, 20);
         x.watch(0, 3, 9);
         due.is("nothing comes by both", x.stand(0, 0), 3);
@@ -322,6 +325,8 @@ final class CounselTest {
         due.is("more than it bears anyway", x.carts(1, 15, 2, 2), -1);
         due.is("not so many", x.carts(1, 16, 2, 2), -5);
         due.is("far from so many", x.carts(1, 16, 2, Integer.MAX_VALUE), -5);
+        due.is("a bridge that bears nothing", x.carts(1, 0, 1, -1), -1);
+        due.is("nothing to bear", x.carts(0, 0, 1, -1), 0);
         due.is("neither is counted", x.status(0) + x.status(1) + x.status(2), 0);
         long digest = x.digest();
         int[][] bad = {{-1, 0, 1, -1}, {2, 0, 1, -1}, {0, -1, 1, -1}, {0, 401, 1, -1}, {0, 0, 0, -1}, {0, 0, 4, -1},
@@ -330,6 +335,9 @@ final class CounselTest {
             due.refused(x, "carts out of range", x.carts(a[0], a[1], a[2], a[3]), -10, 0, x.status(0) - 1, digest);
         }
     }
+
+    private static final String YEARS = "thing1 1 1 19;thing1 1 1 17;thing1 1 1 16;gift 0 0 1 9;gift 4 1 1 9;"
+        + "gift 2 0 9 20;gift 5 1 9 9;gift 3 1 1 9;in 0 0;in 1 1;in 2 4;watch 1 1 4;";
 
     private static void years() {
         HorseGift x = Due.told("gift 0 0 1 16;gift 0 1 1 16;gift 0 0 1 1;thing 1 0 0 9;in 0 2;ear 0 11;watch 1 4 2;");
@@ -344,6 +352,23 @@ final class CounselTest {
         due.is("nothing more may be undone", x.count(4), 0);
         x.send(0, 0);
         due.is("what is lost before counts", x.years(1, 0, 0), 1);
+        HorseGift y = Due.told("gift 2 1 0 9;gate 0 0;");
+        due.is("one gift, refused each time", y.years(0, 90, 0), 90);
+        due.is("one gift, by the other city", y.years(1, 90, 0), 0);
+        int[] seeds = {0, 7, 65535, 123456, 999999};
+        for (int seed : seeds) {
+            HorseGift sent = Due.told(YEARS);
+            HorseGift told = Due.told(YEARS);
+            long z = seed;
+            for (int n = 0; n < 10; n++) {
+                z = (z * 1103515245L + 12345L) & 0x7fffffffL;
+                int gift = (int) (z >> 16) % 5;
+                z = (z * 1103515245L + 12345L) & 0x7fffffffL;
+                sent.send(gift, (int) (z >> 16) % 6);
+                due.is("seed " + seed + ", city 0", told.years(0, n + 1, seed), sent.about(0, 3));
+                due.is("seed " + seed + ", city 1", told.years(1, n + 1, seed), sent.about(1, 3));
+            }
+        }
     }
 
     private static void yearsWrong() {

@@ -8,6 +8,7 @@ final class GiftsTest {
         passing();
         undo();
         undoMost();
+        undoRowsMoved();
         undoLeavesTheRest();
         of();
         ofDays();
@@ -111,6 +112,36 @@ final class GiftsTest {
         x.send(0, 0);
         due.is("undo of a new one", x.undo(), 1);
         due.is("two days", x.count(2), 2);
+    }
+
+    /** Twelve changes, of which the last eight are undone: each time all is as it was, but for count(4). */
+    private static void undoRowsMoved() {
+        HorseGift x = Due.told("thing 1 1 1 5;gift 0 0 1 9;gift 0 1 1 9;");
+        long[] digests = new long[12];
+        for (int n = 0; n < 12; n++) {
+            digests[n] = x.digest() - weightOfUndone() * x.count(4);
+            if (n % 3 == 0) {
+                x.put(0, n % 2);
+            } else {
+                x.send(n % 3 - 1, n % 6);
+            }
+        }
+        for (int n = 11; n >= 4; n--) {
+            due.is("undo of " + n, x.undo(), 1);
+            due.is("left to be undone", x.count(4), n - 4);
+            due.is("as before " + n, x.digest() - weightOfUndone() * x.count(4), digests[n]);
+        }
+        due.is("none is left", x.undo(), -3);
+    }
+
+    /** By what count(4) is multiplied in the digest of one thing and two gifts. */
+    private static long weightOfUndone() {
+        int valuesBehind = 1 + 5 + 2 * 5 + 2 * 10 + 2;
+        long weight = 1;
+        for (int i = 0; i < valuesBehind; i++) {
+            weight *= 31;
+        }
+        return weight;
     }
 
     private static void undoLeavesTheRest() {

@@ -153,7 +153,7 @@ final class KeptTest {
         x.thing(9, 1, 2, 3);
         x.thing(2, 4, 5, 20);
         x.gift(4, 1, 6, 7);
-        x.gift(0, 0, 8, 16);
+        x.gift(0, 1, 8, 16);
         x.tell(0, 55);
         x.put(1, 0);
         x.city(0, 0, 20);
@@ -164,14 +164,16 @@ final class KeptTest {
         }
         x.send(0, 0);
         x.put(1, 0);
+        x.city(0, 0, 15);
         x.send(1, 0);
         x.send(1, 0);
+        x.city(0, 0, 20);
         x.belief(0, 1, false);
         x.type('a');
         h = over(863, 2, 2, 3, 1, 5, 1);
         h = over(h, 9, 1, 2, 3, -1, 2, 4, 5, 20, 0);
-        h = over(h, 4, 0, 6, 7, 55, 0, 0, 8, 16, 0);
-        h = over(h, 20, 10, 60, 0, 0, 0, 0, 0, 0, 22, 15, 21, 22, 1, 2, 3, 4, 5, 6, 2, 81, 100);
+        h = over(h, 4, 0, 6, 7, 55, 0, 1, 8, 16, 0);
+        h = over(h, 20, 10, 60, 0, 0, 0, 0, 0, 0, 24, 15, 21, 22, 1, 2, 3, 4, 5, 6, 0, 81, 100);
         due.is("digest", x.digest(), h);
         x.of(9, 9);
         due.is("status is not in it", x.digest(), h);

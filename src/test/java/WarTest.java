@@ -216,6 +216,21 @@ final class WarTest {
         due.is("read anew", x.read(), 9);
         due.is("told of a gift anew", x.tell(0, 0), 0);
         due.is("things anew", x.count(0), 2);
+        x.tell(0, 8);
+        x.send(0, 0);
+        x.send(0, 0);
+        x.years(0, 9, 9);
+        due.is("read after years", x.read(), 9);
+        due.is("things anew", x.count(0), 2);
+        due.is("gifts anew", x.count(1), 1);
+        due.is("days anew", x.count(2), 0);
+        due.is("lost anew", x.about(0, 3) + x.about(1, 3), 0);
+        due.is("told of a gift anew", x.tell(0, 0), 0);
+        x.watch(0, 0, 3);
+        x.watch(0, 1, 3);
+        x.years(0, 9, 9);
+        due.is("read after years", x.read(), 9);
+        due.is("watches anew", x.watch(0, 0, 0) + x.watch(0, 1, 0), 0);
         due.is("only blanks", Due.read(x, "   "), 0);
         due.is("most items of 150 bytes", Due.read(x, "ear0 0;ear0 1;ear0 2;ear0 3;ear0 4;ear0 5;ear0 6;"
             + "ear0 0;ear0 1;ear0 2;ear0 3;ear0 4;ear0 5;ear0 6;ear0 0;ear0 1;ear0 2;ear0 3;ear0 4;ear0 5;ear0 6;"), 21);
@@ -243,6 +258,10 @@ final class WarTest {
         fault("thin 1 1 1 1;", 0);
         fault("things 1 1 1 1;", 0);
         fault(" Gate 0 1;", 1);
+        fault("hear 0 1;", 0);
+        fault("bate 0 1;", 0);
+        fault("on 0 1;", 0);
+        fault("gifs 1 1 1 1;", 0);
         fault("ear 0 1;;", 8);
         fault(";", 0);
         fault("7", 0);
