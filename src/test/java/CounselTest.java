@@ -20,6 +20,7 @@ final class CounselTest {
         cartsAnswers();
         years();
         yearsWrong();
+        fullTables();
         due.end("CounselTest");
     }
 
@@ -379,5 +380,32 @@ final class CounselTest {
         for (int[] a : bad) {
             due.refused(x, "years out of range", x.years(a[0], a[1], a[2]), -2, 0, x.status(0) - 1, digest);
         }
+    }
+
+    /** Six gifts, all of city 0, and eight things: every row is used to its end. */
+    private static void fullTables() {
+        HorseGift x = Due.told("gift 0 0 1 9;gift 0 0 2 9;gift 0 0 3 9;gift 0 0 4 9;gift 0 0 5 9;gift 0 0 6 9;");
+        for (int n = 0; n < 8; n++) {
+            x.thing(1, n, n, n);
+        }
+        due.is("the last thing in the last gift", x.put(7, 5), 1);
+        due.is("gate", x.wide(0, 0), 9);
+        due.is("ear", x.wide(0, 1), 8);
+        for (int hour = 0; hour < 5; hour++) {
+            x.watch(1, hour, 1);
+        }
+        x.watch(1, 5, 4);
+        due.is("stand by the last hour", x.stand(5, 0), 5);
+        due.is("how much", x.stand(5, 1), 3);
+        x.tell(5, 9);
+        due.is("sat in the last gift", x.sat(6, 5), 32);
+        // Sounds and harms of 9 are the most below the ear: of 3 and 6, or 4 and 5, the least.
+        due.is("hide two", x.hide(0, 5, 0), 16 + 32);
+        due.is("how much", x.hide(0, 5, 1), 5);
+        order(x, 0, 1, 13, 0, 1, 2, 3, 4, 5);
+        // The last gift weighs 13: at an end, beside the lightest.
+        order(x, 0, 2, 14, 1, 2, 3, 4, 0, 5);
+        due.is("the last thing is heard with others", x.knocks(5, 128 + 8, 64 + 4), 1);
+        due.is("years of six", x.years(0, 90, 1) >= 0 ? 1 : 0, 1);
     }
 }
