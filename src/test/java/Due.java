@@ -2,13 +2,32 @@
 final class Due {
     private int right = 0;
     private int wrong = 0;
+    private int sentences = 0;
+    private int rightAhead = 0;
+    private String sentence = "";
+
+    /** A sentence of the document: the answers that follow are held against it, and one of them at least comes. */
+    void says(String words) {
+        endSentence();
+        sentence = words;
+        sentences++;
+    }
+
+    private void endSentence() {
+        if (!sentence.isEmpty() && right + wrong == rightAhead) {
+            wrong++;
+            System.out.println("nothing is held against \"" + sentence + "\"");
+        }
+        rightAhead = right + wrong;
+    }
 
     void is(String call, long got, long want) {
         if (got == want) {
             right++;
         } else {
             wrong++;
-            System.out.println(call + " answered " + got + ", due is " + want);
+            System.out.println(call + " answered " + got + ", due is " + want
+                + (sentence.isEmpty() ? "" : " by \"" + sentence + "\""));
         }
     }
 
@@ -19,20 +38,52 @@ final class Due {
         is(call + ", then digest()", x.digest(), digest);
     }
 
+    /** A call by its number that is refused: as above, and the other reasons are counted as they were. */
+    void refuses(HorseGift x, long answer, int reason, int call, int... a) {
+        long digest = x.digest();
+        int[] before = {x.status(0), x.status(1), x.status(2)};
+        String spelled = Calls.spelled(call, a);
+        is(spelled, Calls.answer(x, call, a), answer);
+        for (int r = 0; r <= 2; r++) {
+            is(spelled + ", then status(" + r + ")", x.status(r), before[r] + (r == reason ? 1 : 0));
+        }
+        is(spelled + ", then digest()", x.digest(), digest);
+    }
+
+    void bad(HorseGift x, int call, int... a) {
+        boolean ten = call == 11 || call == 15 || call == 19 || call == 23;
+        refuses(x, call == 28 ? -1 : ten ? -10 : -2, 0, call, a);
+    }
+
+    void no(HorseGift x, int call, int... a) {
+        refuses(x, -3, 1, call, a);
+    }
+
+    void full(HorseGift x, int call, int... a) {
+        refuses(x, -4, 2, call, a);
+    }
+
     /** Ends the program: with 1, if an answer was wrong. */
     void end(String test) {
-        System.out.println(test + ": " + right + " answers right, " + wrong + " wrong");
+        endSentence();
+        System.out.println(test + ": " + right + " answers right, " + wrong + " wrong"
+            + (sentences == 0 ? "" : ", of " + sentences + " sentences"));
         if (wrong != 0 || right == 0) {
             System.exit(1);
         }
     }
 
-    /** Types a text and answers what reading it says. */
-    static int read(HorseGift x, String text) {
+    /** Types a text anew. */
+    static void type(HorseGift x, String text) {
         x.clear();
         for (int i = 0; i < text.length(); i++) {
             x.type(text.charAt(i));
         }
+    }
+
+    /** Types a text and answers what reading it says. */
+    static int read(HorseGift x, String text) {
+        type(x, text);
         return x.read();
     }
 

@@ -5,12 +5,9 @@ import java.util.List;
 final class TwinTest {
     private static final int RUNS = 1500;
     private static final int CALLS = 512;
-    private static final String[] NAMES = {"", "", "thing", "gift", "put", "out", "city", "watch", "type", "clear",
-        "read", "send", "undo", "of", "about", "hide", "wide", "belief", "knocks", "game", "stand", "tell", "sat",
-        "carts", "years", "part", "image", "from", "status", "count", "digest"};
 
     private static long seed = 20261118;
-    private static final long[] rows = new long[NAMES.length];
+    private static final long[] rows = new long[Calls.NAMES.length];
 
     private static int below(int n) {
         seed = seed * 6364136223846793005L + 1442695040888963407L;
@@ -35,9 +32,9 @@ final class TwinTest {
                 System.exit(1);
             }
         }
-        for (int call = 2; call < NAMES.length; call++) {
+        for (int call = 2; call < Calls.NAMES.length; call++) {
             if (rows[call] < 1000) {
-                System.out.println(NAMES[call] + " was called only " + rows[call] + " times");
+                System.out.println(Calls.NAMES[call] + " was called only " + rows[call] + " times");
                 System.exit(1);
             }
         }
@@ -59,9 +56,9 @@ final class TwinTest {
                 typing.addAll(textOf(x));
             }
             rows[call]++;
-            long got = answer(x, call, a);
+            long got = Calls.answer(x, call, a);
             long want = twin.call(call, a);
-            before.add(NAMES[call] + "(" + a[0] + ", " + a[1] + ", " + a[2] + ", " + a[3] + ") = " + got);
+            before.add(Calls.spelled(call, a) + " = " + got);
             if (got != want) {
                 System.out.println("run " + run + ", call " + n + ": " + String.join("\n", before) + ", due is " + want);
                 return false;
@@ -130,39 +127,5 @@ final class TwinTest {
         }
         bytes.add(-1);
         return bytes;
-    }
-
-    private static long answer(HorseGift x, int call, int[] a) {
-        switch (call) {
-            case 2: return x.thing(a[0], a[1], a[2], a[3]);
-            case 3: return x.gift(a[0], a[1], a[2], a[3]);
-            case 4: return x.put(a[0], a[1]);
-            case 5: return x.out(a[0]);
-            case 6: return x.city(a[0], a[1], a[2]);
-            case 7: return x.watch(a[0], a[1], a[2]);
-            case 8: return x.type(a[0]);
-            case 9: return x.clear();
-            case 10: return x.read();
-            case 11: return x.send(a[0], a[1]);
-            case 12: return x.undo();
-            case 13: return x.of(a[0], a[1]);
-            case 14: return x.about(a[0], a[1]);
-            case 15: return x.hide(a[0], a[1], a[2]);
-            case 16: return x.wide(a[0], a[1]);
-            case 17: return x.belief(a[0], a[1], a[2] % 2 != 0);
-            case 18: return x.knocks(a[0], a[1], a[2]);
-            case 19: return x.game(a[0], a[1], a[2]);
-            case 20: return x.stand(a[0], a[1]);
-            case 21: return x.tell(a[0], a[1]);
-            case 22: return x.sat(a[0], a[1]);
-            case 23: return x.carts(a[0], a[1], a[2], a[3]);
-            case 24: return x.years(a[0], a[1], a[2]);
-            case 25: return x.part(a[0]);
-            case 26: return x.image(a[0]);
-            case 27: return x.from(a[0]);
-            case 28: return x.status(a[0]);
-            case 29: return x.count(a[0]);
-            default: return x.digest();
-        }
     }
 }
