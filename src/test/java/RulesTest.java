@@ -42,6 +42,7 @@ final class RulesTest {
         String source = Files.readString(Path.of("src/main/java/HorseGift.java"));
         words(withoutComments(source));
         lengths(source);
+        objects(withoutComments(source));
         due.end("RulesTest");
     }
 
@@ -126,5 +127,16 @@ final class RulesTest {
                 start = -1;
             }
         }
+    }
+
+    /** All calls of a run live in one room, so every object is made with the one that it is a field of. */
+    private static void objects(String source) {
+        for (String line : source.split("\n")) {
+            if (line.matches(".*\\bnew\\b.*")) {
+                yes("made in a field: " + line.trim(), line.matches("^ +(private )?final [\\w\\[\\]]+ \\w+ = new [^;]+;$"));
+            }
+        }
+        yes("no other way to make one", !source.contains(".clone(") && !source.contains("Arrays.")
+            && !source.contains("StringBuilder") && !source.contains("substring") && !source.contains("toCharArray"));
     }
 }
