@@ -7,7 +7,6 @@ import java.util.ArrayList;
 import java.util.List;
 import java.util.regex.Matcher;
 import java.util.regex.Pattern;
-import javax.tools.ToolProvider;
 
 /** README.md: its examples are compiled and run, and it names every call of the face with what it takes. */
 final class ReadmeTest {
@@ -17,7 +16,7 @@ final class ReadmeTest {
     private static final Pattern ANSWERED = Pattern.compile("(int (\\w+) = )?(\\w+\\.\\w+\\(.*\\)); +// (-?\\d+)(:.*)?");
     private static final Pattern CALL = Pattern.compile("(?m)^    public (?:int|long) (\\w+)\\((.*)\\) \\{$");
 
-    public static void main(String[] args) throws IOException, ReflectiveOperationException {
+    public static void main(String[] args) throws Exception {
         String readme = Files.readString(Path.of("README.md"));
         names(readme);
         List<String> lines = new ArrayList<>();
@@ -40,7 +39,7 @@ final class ReadmeTest {
         due.is("calls of the face", calls, 29);
     }
 
-    private static void examples(List<String> lines) throws IOException, ReflectiveOperationException {
+    private static void examples(List<String> lines) throws Exception {
         StringBuilder body = new StringBuilder();
         List<String> calls = new ArrayList<>();
         List<Long> wanted = new ArrayList<>();
@@ -64,14 +63,14 @@ final class ReadmeTest {
     }
 
     /** The body is compiled as a method that fills a row of answers. */
-    private static long[] answers(String body, int count) throws IOException, ReflectiveOperationException {
+    private static long[] answers(String body, int count) throws Exception {
         Path folder = Files.createTempDirectory("readme");
         Path source = folder.resolve("Example.java");
         Path compiled = folder.resolve("Example.class");
         Files.writeString(source, "public final class Example {\npublic static void fill(long[] a) {\n" + body + "}\n}\n");
         long[] a = new long[count];
-        int wrong = ToolProvider.getSystemJavaCompiler().run(null, null, null,
-            "-cp", System.getProperty("java.class.path"), "-d", folder.toString(), source.toString());
+        int wrong = new ProcessBuilder("javac", "-cp", System.getProperty("java.class.path"), "-d", folder.toString(),
+            source.toString()).inheritIO().start().waitFor();
         due.is("compiling README.md's examples", wrong, 0);
         if (wrong == 0) {
             try (URLClassLoader loader = new URLClassLoader(new URL[] {folder.toUri().toURL()})) {
